@@ -1107,18 +1107,21 @@ public final class ParkingRobot {
                 return;
             }
             for (int i = 0; i < count; i++) {
-                if (isTaken[i]) {
-                    continue;
+                if (!isTaken[i]) {
+                    tryNext(depth, i);
                 }
-                steps[depth + 1].copyFrom(steps[depth]);
-                if (steps[depth + 1].fetch(cars[i]) == 0 || isTooLong(depth + 1)) {
-                    continue;
-                }
-                isTaken[i] = true;
-                tried[depth] = cars[i];
-                tryFrom(depth + 1);
-                isTaken[i] = false;
             }
+        }
+
+        private void tryNext(int depth, int i) {
+            steps[depth + 1].copyFrom(steps[depth]);
+            if (steps[depth + 1].fetch(cars[i]) == 0 || isTooLong(depth + 1)) {
+                return;
+            }
+            isTaken[i] = true;
+            tried[depth] = cars[i];
+            tryFrom(depth + 1);
+            isTaken[i] = false;
         }
 
         /** Every car that is left costs at least one move. */
