@@ -1037,7 +1037,6 @@ public final class ParkingRobot {
     private static final class Orders {
         private final Garage[] steps = new Garage[MOST_ORDERED + 1];
         private final int[] cars = new int[MOST_ORDERED];
-        private final boolean[] isTaken = new boolean[MOST_ORDERED];
         private final int[] tried = new int[MOST_ORDERED];
         private final int[] best = new int[MOST_ORDERED];
         private int count;
@@ -1070,7 +1069,6 @@ public final class ParkingRobot {
             for (int car = 0; car < MOST_CARS && count < MOST_ORDERED; car++) {
                 if ((set >> car & 1) != 0) {
                     cars[count] = car;
-                    isTaken[count] = false;
                     count++;
                 }
             }
@@ -1107,21 +1105,19 @@ public final class ParkingRobot {
                 return;
             }
             for (int i = 0; i < count; i++) {
-                if (!isTaken[i]) {
-                    tryNext(depth, i);
+                if (steps[depth].isStored(cars[i])) {
+                    tryNext(depth, cars[i]);
                 }
             }
         }
 
-        private void tryNext(int depth, int i) {
+        private void tryNext(int depth, int car) {
             steps[depth + 1].copyFrom(steps[depth]);
-            if (steps[depth + 1].fetch(cars[i]) == 0 || isTooLong(depth + 1)) {
+            if (steps[depth + 1].fetch(car) == 0 || isTooLong(depth + 1)) {
                 return;
             }
-            isTaken[i] = true;
-            tried[depth] = cars[i];
+            tried[depth] = car;
             tryFrom(depth + 1);
-            isTaken[i] = false;
         }
 
         /** Every car that is left costs at least one move. */
