@@ -152,20 +152,20 @@ public final class PromiseTests {
     private void storeMakesJobs() {
         checks.part("2 store, jobs");
         Yard yard = farAndNear();
-        job(yard.robot, 0, 0, -1, 29, 0, 14);
-        job(yard.robot, 1, 1, -1, 0, 0, 16);
-        machine(yard.robot, 0, 0, 16, 16);
-        machine(yard.robot, 1, 4, 14, 14);
-        machine(yard.robot, 2, 0, 0, 0);
-        machine(yard.robot, 3, 0, 14, 14);
+        checks.job(yard.robot, 0, 0, -1, 29, 0, 14);
+        checks.job(yard.robot, 1, 1, -1, 0, 0, 16);
+        checks.machine(yard.robot, 0, 0, 16, 16);
+        checks.machine(yard.robot, 1, 4, 14, 14);
+        checks.machine(yard.robot, 2, 0, 0, 0);
+        checks.machine(yard.robot, 3, 0, 14, 14);
         yard.put(9, 0, 0);
         // the lift is ready at 14 and takes the car in until 16; the shuttle is ready at 16
-        job(yard.robot, 2, 2, -1, 9, 14, 25);
+        checks.job(yard.robot, 2, 2, -1, 9, 14, 25);
         yard.put(2, 0, 0);
         // the lift is ready at 18 and waits; the shuttle is ready at 25 in column 4
-        job(yard.robot, 3, 3, -1, 2, 18, 34);
-        machine(yard.robot, 0, 1, 34, 34);
-        machine(yard.robot, 3, 0, 31, 31);
+        checks.job(yard.robot, 3, 3, -1, 2, 18, 34);
+        checks.machine(yard.robot, 0, 1, 34, 34);
+        checks.machine(yard.robot, 3, 0, 31, 31);
     }
 
     /** Car 0 in the bay 29, on level 1, in column 4, at the back; then car 1 in the bay 0. */
@@ -176,18 +176,6 @@ public final class PromiseTests {
         return yard;
     }
 
-    private void job(ParkingRobot x, int i, int... parts) {
-        for (int what = 0; what < 5; what++) {
-            checks.due("job(" + i + ", " + what + ")", x.job(i, what), parts[what]);
-        }
-    }
-
-    private void machine(ParkingRobot x, int machine, int... numbers) {
-        for (int what = 0; what < 3; what++) {
-            checks.due("machine(" + machine + ", " + what + ")", x.machine(machine, what), numbers[what]);
-        }
-    }
-
     // ---- 3
 
     private void retrieveAlone() {
@@ -195,9 +183,9 @@ public final class PromiseTests {
         ParkingRobot x = farAndNear().robot;
         x.pass(100);
         checks.due("retrieve(0)", x.retrieve(0), 1);
-        job(x, 2, 0, 29, -1, 100, 114);
-        machine(x, 1, 0, 109, 23);
-        machine(x, 3, 0, 114, 28);
+        checks.job(x, 2, 0, 29, -1, 100, 114);
+        checks.machine(x, 1, 0, 109, 23);
+        checks.machine(x, 3, 0, 114, 28);
         checks.due("its bay is free", x.bay(29, 6), -1);
         for (int wrong : new int[] {0, 2, 40, -1, LEAST, MOST}) {
             checks.refused("retrieve(" + wrong + ")", INDEX, () -> x.retrieve(wrong));
@@ -212,13 +200,13 @@ public final class PromiseTests {
         yard.open(6, 13, 20);
         ParkingRobot x = yard.robot;
         checks.due("retrieve(0)", x.retrieve(0), 2);
-        job(x, 0, 0, -1, 1, 0, 7);
-        job(x, 1, 1, -1, 0, 4, 11);
-        job(x, 2, 1, 0, 13, 11, 17);
+        checks.job(x, 0, 0, -1, 1, 0, 7);
+        checks.job(x, 1, 1, -1, 0, 4, 11);
+        checks.job(x, 2, 1, 0, 13, 11, 17);
         // the lift is ready at 9 and waits where it is
-        job(x, 3, 0, 1, -1, 9, 25);
-        machine(x, 0, 0, 23, 23);
-        machine(x, 3, 0, 25, 25);
+        checks.job(x, 3, 0, 1, -1, 9, 25);
+        checks.machine(x, 0, 0, 23, 23);
+        checks.machine(x, 3, 0, 25, 25);
         checks.due("account(3)", x.account(3), 1);
         checks.due("account(4)", x.account(4), 36);
         checks.due("account(5)", x.account(5), 25);
@@ -235,11 +223,11 @@ public final class PromiseTests {
         ParkingRobot x = yard.robot;
         checks.due("retrieve(0)", x.retrieve(0), 2);
         // the shuttle of level 2 is ready at 0
-        job(x, 2, 1, 0, 43, 0, 27);
-        job(x, 3, 0, 1, -1, 15, 33);
-        machine(x, 0, 0, 31, 31);
-        machine(x, 2, 1, 27, 27);
-        machine(x, 3, 0, 33, 33);
+        checks.job(x, 2, 1, 0, 43, 0, 27);
+        checks.job(x, 3, 0, 1, -1, 15, 33);
+        checks.machine(x, 0, 0, 31, 31);
+        checks.machine(x, 2, 1, 27, 27);
+        checks.machine(x, 3, 0, 33, 33);
     }
 
     private void retrieveRefuses() {
@@ -557,8 +545,8 @@ public final class PromiseTests {
         yard.open(13);
         ParkingRobot x = yard.robot;
         checks.due("retrieveAll(3)", x.retrieveAll(3), 22);
-        job(x, 2, 1, 0, -1, 9, 17);
-        job(x, 3, 0, 1, -1, 15, 22);
+        checks.job(x, 2, 1, 0, -1, 9, 17);
+        checks.job(x, 3, 0, 1, -1, 15, 22);
         checks.due("account(2)", x.account(2), 2);
         checks.due("bays(0)", x.bays(0), 0);
         checks.due("it is one change", x.undo(), 5);
@@ -576,7 +564,7 @@ public final class PromiseTests {
         ParkingRobot x = yard.robot;
         checks.due("tidy()", x.tidy(), 1);
         checks.due("the front car is moved", x.car(1, 2), 13);
-        job(x, 2, 1, 0, 13, 11, 17);
+        checks.job(x, 2, 1, 0, 13, 11, 17);
         checks.due("account(3)", x.account(3), 1);
         checks.due("tidy()", x.tidy(), 0);
         x.undo();
@@ -644,8 +632,8 @@ public final class PromiseTests {
         checks.part("19 machine");
         ParkingRobot x = farAndNear().robot;
         x.pass(500);
-        machine(x, 1, 4, 14, 14);
-        machine(x, 3, 0, 14, 14);
+        checks.machine(x, 1, 4, 14, 14);
+        checks.machine(x, 3, 0, 14, 14);
         for (int wrong : new int[] {-1, 4, LEAST, MOST}) {
             checks.refused("machine(" + wrong + ", 3)", INDEX, () -> x.machine(wrong, 3));
         }
@@ -732,7 +720,7 @@ public final class PromiseTests {
         checks.refused("no report yet", ELEMENT, () -> x.report(0, 0));
         checks.refused("no report comes before a wrong part", ELEMENT, () -> x.report(0, 2));
         checks.refused("retrieve(0)", UNSUPPORTED, () -> x.retrieve(0));
-        reported(x, 0, 1, 4);
+        checks.reported(x, 0, 1, 4);
         for (int wrong : new int[] {-1, 3, LEAST, MOST}) {
             checks.refused("report(" + wrong + ", 2)", ELEMENT, () -> x.report(wrong, 2));
         }
@@ -741,19 +729,12 @@ public final class PromiseTests {
         }
         yard.open();
         checks.refused("a wrong car leaves no report", INDEX, () -> x.retrieve(9));
-        reported(x, 0, 1, 4);
+        checks.reported(x, 0, 1, 4);
         yard.open(0);
         checks.refused("an open bay with a car does not count", UNSUPPORTED, () -> x.retrieve(0));
-        reported(x, 0, 1, 0);
+        checks.reported(x, 0, 1, 0);
         checks.due("a retrieval that succeeds leaves it", x.retrieve(1), 1);
-        reported(x, 0, 1, 0);
-    }
-
-    private void reported(ParkingRobot x, int... details) {
-        for (int level = 0; level < 3; level++) {
-            checks.due("report(" + level + ", 0)", x.report(level, 0), level + 1);
-            checks.due("report(" + level + ", 1)", x.report(level, 1), details[level]);
-        }
+        checks.reported(x, 0, 1, 0);
     }
 
     private void feed() {
@@ -768,21 +749,10 @@ public final class PromiseTests {
         checks.due("the buffer is empty", x.feed('s'), 1);
     }
 
-    private static void type(ParkingRobot x, String text) {
-        for (char letter : text.toCharArray()) {
-            x.feed(letter);
-        }
-    }
-
-    private void performed(ParkingRobot x, String text, int want) {
-        type(x, text);
-        checks.due("perform " + text, x::perform, want);
-    }
-
     private void performCarriesOut() {
         checks.part("27 perform, carried out");
         ParkingRobot x = new ParkingRobot();
-        performed(x, "s0,0050;s1,5;t0999;c0007;o7;r0;", 6);
+        checks.performed(x, "s0,0050;s1,5;t0999;c0007;o7;r0;", 6);
         checks.due("account(0)", x.account(0), 999);
         checks.due("account(1)", x.account(1), 2);
         checks.due("account(2)", x.account(2), 1);
@@ -791,12 +761,12 @@ public final class PromiseTests {
         checks.due("bay(7, 5)", x.bay(7, 5), 0);
         checks.due("it is one change", x.undo(), 0);
         checks.due("all of it is taken back", x.account(1), 0);
-        performed(x, "c59;", 1);
+        checks.performed(x, "c59;", 1);
         checks.due("bay(59, 5)", x.bay(59, 5), 1);
-        performed(x, "o1;".repeat(20), 20);
-        performed(x, "t1;".repeat(20), 20);
+        checks.performed(x, "o1;".repeat(20), 20);
+        checks.performed(x, "t1;".repeat(20), 20);
         checks.due("account(0)", x.account(0), 20);
-        performed(x, "s1,9999;", 1);
+        checks.performed(x, "s1,9999;", 1);
         checks.due("car(0, 1)", x.car(0, 1), 9999);
         checks.due("undo()", x.undo(), 3);
     }
@@ -810,25 +780,19 @@ public final class PromiseTests {
         int[] positions = {0, 0, 0, 1, 1, 2, 2, 3, 3, 4, 2, 7, 1, 1, 5, 2, 3, 3, 3, 0, 1, 1, 2, 11, 4, 1, 0, 1, 2, 0, 1,
             4, 0};
         for (int i = 0; i < texts.length; i++) {
-            performed(x, texts[i], -100 - positions[i]);
+            checks.performed(x, texts[i], -100 - positions[i]);
         }
-        performed(x, "c1;".repeat(19) + "c12", -160);
+        checks.performed(x, "c1;".repeat(19) + "c12", -160);
         checks.due("nothing was carried out", x.account(1) + x.bays(3), 0);
         checks.refused("no change", STATE, x::undo);
         checks.due("perform()", x.perform(), -100);
-    }
-
-    private void notPerformed(ParkingRobot x, String text) {
-        type(x, text);
-        checks.refused("perform " + text, UNSUPPORTED, x::perform);
-        checks.due("the buffer is empty", x.perform(), -100);
     }
 
     private void performTakesAllBack() {
         checks.part("27 perform, not carried out");
         ParkingRobot x = new ParkingRobot();
         for (String text : new String[] {"t0;", "t1000;", "c60;", "o60;", "r1;", "s0,1;r2;", "r0;r0;"}) {
-            notPerformed(x, "s0,7;c5;t5;" + text);
+            checks.notPerformed(x, "s0,7;c5;t5;" + text);
         }
         checks.due("no car came", x.account(1), 0);
         checks.due("no bay is closed", x.bays(3), 0);
@@ -839,20 +803,20 @@ public final class PromiseTests {
 
         Yard yard = Yard.pair(5, 5);
         yard.open(2, 13, 15);
-        notPerformed(yard.robot, "c13;c15;s0,1;r0;");
-        reported(yard.robot, 0, 1, 0);
+        checks.notPerformed(yard.robot, "c13;c15;s0,1;r0;");
+        checks.reported(yard.robot, 0, 1, 0);
         checks.due("the bays are open again", yard.robot.bays(1), 3);
-        performed(yard.robot, "c13;r0;", 2);
+        checks.performed(yard.robot, "c13;r0;", 2);
         checks.due("the blocking car was moved", yard.robot.car(1, 2), 2);
 
         Yard full = new Yard();
         full.open();
-        notPerformed(full.robot, "o0;c0;s0,1;");
+        checks.notPerformed(full.robot, "o0;c0;s0,1;");
         ParkingRobot late = new ParkingRobot();
         for (int i = 0; i < 10; i++) {
             late.pass(999);
         }
-        notPerformed(late, "t0009;t1;");
+        checks.notPerformed(late, "t0009;t1;");
     }
 
     private void undo() {
@@ -894,7 +858,7 @@ public final class PromiseTests {
         x.pass(5);
         x.feed('t');
         x.undo();
-        reported(x, 0, 1, 0);
+        checks.reported(x, 0, 1, 0);
         checks.due("the buffer stays", x.feed('7'), 2);
         x.feed(';');
         checks.due("perform()", x.perform(), 1);
@@ -933,6 +897,6 @@ public final class PromiseTests {
         checks.due("saved in place of what was", x.save(), 1);
         x.retrieve(0);
         checks.due("restore()", x.restore(), 1);
-        reported(x, 0, 1, 0);
+        checks.reported(x, 0, 1, 0);
     }
 }

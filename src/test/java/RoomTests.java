@@ -4,6 +4,7 @@ import java.lang.management.ManagementFactory;
 /** What objects and calls put into the one room in which all calls of a run live. */
 public final class RoomTests {
     private static final int CALLS = 512;
+    private static final int CALLS_OF_YARD = 100;
     private static final long MOST_BYTES_OF_AN_OBJECT = 100_000;
     /** Small beside 7.3 million fields and elements; the machine that measures may make a little of its own. */
     private static final long MOST_BYTES_OF_A_RUN = 100_000;
@@ -54,7 +55,7 @@ public final class RoomTests {
 
     private static void run(ParkingRobot x) {
         long cars = 1L | 1L << 2 | 1L << 4 | 1L << 6 | 1L << 8;
-        for (int i = 0; i < CALLS / 8; i++) {
+        for (int i = 0; i < (CALLS - CALLS_OF_YARD) / 8; i++) {
             x.bestMoves(cars);
             x.bestEnd(cars);
             x.bestCar(cars, 4);
